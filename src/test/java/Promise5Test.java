@@ -10,6 +10,7 @@ public final class Promise5Test {
         addToSet();
         unset();
         pull();
+        longestPath();
         allOrNothing();
         tooLarge();
         widestDraft();
@@ -150,6 +151,9 @@ public final class Promise5Test {
         Desk.done("{r:['a']}", "{$addToSet:{r:'a'}}", 0, "{r:['a']}");
         Desk.done("{r:['a']}", "{$addToSet:{r:'ab'}}", 1, "{r:['a','ab']}");
         Desk.done("{r:['a\u0000b']}", "{$addToSet:{r:'a\u0000c'}}", 1, "{r:['a\u0000b','a\u0000c']}");
+        // The number's bytes are those of the text.
+        Desk.done("{r:['abc']}", "{$addToSet:{r:27974191445704708L}}", 1, "{r:['abc',27974191445704708L]}");
+        Desk.done("{r:[27974191445704708L]}", "{$addToSet:{r:'abc'}}", 1, "{r:[27974191445704708L,'abc']}");
         Desk.done("{r:[{a:1,b:2}]}", "{$addToSet:{r:{a:1L,b:2}}}", 0, "{r:[{a:1,b:2}]}");
         Desk.done("{r:[{a:1,b:2}]}", "{$addToSet:{r:{b:2,a:1}}}", 1, "{r:[{a:1,b:2},{b:2,a:1}]}");
         Desk.done("{r:[{a:1,b:2}]}", "{$addToSet:{r:{a:1}}}", 1, "{r:[{a:1,b:2},{a:1}]}");
@@ -194,6 +198,21 @@ public final class Promise5Test {
         for (String value : new String[] {"'1'", "null", "true", "{}", "1", "1L"}) {
             Desk.fails("{a:" + value + "}", "{$pull:{a:1}}", 7);
         }
+    }
+
+    private static void longestPath() {
+        String path = "'a.b.c.d.e.f.g.h'";
+        String ahead = "{z:[1],a:{b:{c:{d:{e:{f:{g:{h:";
+        String behind = ",i:1},j:2}}}}}},y:3}";
+        Desk.done(ahead + "[1,2]" + behind, "{$push:{" + path + ":3}}", 1, ahead + "[1,2,3]" + behind);
+        Desk.done(ahead + "[1,2]" + behind, "{$addToSet:{" + path + ":3}}", 1, ahead + "[1,2,3]" + behind);
+        Desk.done(ahead + "[1,2]" + behind, "{$addToSet:{" + path + ":2}}", 0, ahead + "[1,2]" + behind);
+        Desk.done(ahead + "[1,2]" + behind, "{$pull:{" + path + ":1}}", 1, ahead + "[2]" + behind);
+        Desk.done(ahead + "7" + behind, "{$inc:{" + path + ":1L}}", 1, ahead + "8L" + behind);
+        Desk.done(ahead + "7" + behind, "{$set:{" + path + ":'x'}}", 1, ahead + "'x'" + behind);
+        Desk.done(ahead + "7" + behind, "{$unset:{" + path + ":1}}", 1,
+            ahead.substring(0, ahead.length() - 2) + behind.substring(1));
+        Desk.done("{}", "{$push:{" + path + ":1}}", 1, "{a:{b:{c:{d:{e:{f:{g:{h:[1]}}}}}}}}");
     }
 
     private static void allOrNothing() {
