@@ -1,16 +1,21 @@
 import java.util.Arrays;
 
-/** Counts the answers that are not as due, and ends a test by them. */
+/** Counts the answers that are not as due, tells each with the sentence that it breaks, and ends a test by them. */
 final class Check {
     private static int wrong = 0;
+    private static String sentence = "";
 
     private Check() {
     }
 
+    /** What is checked from now on belongs to this sentence of the document, in its own words. */
+    static void sentence(String place, String words) {
+        sentence = place + " \"" + words + "\": ";
+    }
+
     static void due(String what, long got, long want) {
         if (got != want) {
-            wrong++;
-            System.out.println(cut(what) + ": answered " + got + ", due is " + want);
+            fail(cut(what) + ": answered " + got + ", due is " + want);
         }
     }
 
@@ -20,15 +25,14 @@ final class Check {
 
     static void due(String what, byte[] got, byte[] want) {
         if (!Arrays.equals(got, want)) {
-            wrong++;
-            System.out.println(cut(what) + ": bytes " + cut(Arrays.toString(got)) + ", due are " + cut(Arrays.toString(want))
+            fail(cut(what) + ": bytes " + cut(Arrays.toString(got)) + ", due are " + cut(Arrays.toString(want))
                 + ", other from byte " + Arrays.mismatch(got, want) + " on");
         }
     }
 
     static void fail(String what) {
         wrong++;
-        System.out.println(what);
+        System.out.println(sentence + what);
     }
 
     private static String cut(String text) {

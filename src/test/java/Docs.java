@@ -43,6 +43,21 @@ final class Docs {
         return out.toByteArray();
     }
 
+    static byte[] join(byte[]... parts) {
+        ByteArrayOutputStream out = new ByteArrayOutputStream();
+        for (byte[] part : parts) {
+            out.writeBytes(part);
+        }
+        return out.toByteArray();
+    }
+
+    /** A number of 32 bits, its lowest byte first. */
+    static byte[] four(int value) {
+        ByteArrayOutputStream out = new ByteArrayOutputStream();
+        number(out, value, 4);
+        return out.toByteArray();
+    }
+
     static String times(String text, int n) {
         return text.repeat(n);
     }
@@ -50,6 +65,38 @@ final class Docs {
     /** A document that is so many deep. */
     static String deep(int depth) {
         return times("{a:", depth - 1) + "{}" + times("}", depth - 1);
+    }
+
+    /** A row that is so many deep. */
+    static String deepRow(int depth) {
+        return times("[", depth) + times("]", depth);
+    }
+
+    /** A document of so many bytes, 13 or more, whose one element is a text. */
+    static String large(String name, int bytes) {
+        return "{" + textOf(name, bytes - 5) + "}";
+    }
+
+    /** An element of so many bytes that is a text. */
+    static String textOf(String name, int bytes) {
+        return name + ":'" + times("x", bytes - 7 - name.length()) + "'";
+    }
+
+    /** 530 elements in 1,997 bytes: names of 0, 1 and 2 bytes, the last ones from pA to vk. */
+    static String mostElements() {
+        StringBuilder out = new StringBuilder("{'':null");
+        for (int i = 0; i < 126; i++) {
+            out.append(",'").append((char) (i < '\'' - 1 ? i + 1 : i + 2)).append("':null");
+        }
+        for (int i = 0; i < 403; i++) {
+            out.append(",'").append((char) ('p' + i / 60)).append((char) ('A' + i % 60)).append("':null");
+        }
+        return out.append("}").toString();
+    }
+
+    /** A row of the same item, so many times. */
+    static String row(String item, int n) {
+        return "[" + times(item + ",", n) + "]";
     }
 
     private static void number(ByteArrayOutputStream out, long value, int bytes) {

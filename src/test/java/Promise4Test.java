@@ -1,137 +1,160 @@
-/** Promise 4: change, and its faults 1 to 5. */
+import java.util.Arrays;
+
+/** Promise 4: change. */
 public final class Promise4Test {
+    private static final String PLACE = "Promise 4";
+
     public static void main(String[] args) {
-        counts();
-        wrongCalls();
-        noDocument();
-        operators();
         paths();
-        arguments();
-        clashes();
-        order();
+        mostPaths();
+        justSoManyBytes();
+        tapeIsEmptyThen();
+        fromNowOn();
+        noDocument();
+        faults();
+        noChangeThen();
+        noSuchCount();
+        documentsStay();
         Check.end();
     }
 
-    private static void due(String change, int answer, int operator, int path) {
-        Desk desk = new Desk();
-        desk.change("{}");
-        Check.due(change, desk.change(change), answer);
-        Check.due(change + ": operator", desk.x.place(0), operator);
-        Check.due(change + ": path", desk.x.place(1), path);
-        if (answer < 0) {
-            Check.due(change + ": no change then", desk.x.apply(0), -2);
+    private static void paths() {
+        Check.sentence(PLACE, "are the change from now on: how many paths");
+        Desk.isChange("{}", 0);
+        Desk.isChange("{$set:{}}", 0);
+        Desk.isChange("{$set:{a:1}}", 1);
+        Desk.isChange("{$set:{a:1,b:2,c:{d:1,e:2}}}", 3);
+        Desk.isChange("{$set:{a:1,b:{x:1}},$unset:{c:null},$inc:{d:1,e:1L},$push:{f:[]},$pull:{g:'x'},$addToSet:{h:true}}", 8);
+        Desk.isChange("{$addToSet:{a:1},$pull:{b:1},$push:{c:1},$inc:{d:1},$unset:{e:1},$set:{f:1}}", 6);
+    }
+
+    private static void mostPaths() {
+        Check.sentence(PLACE, "are the change from now on: how many paths");
+        // The name without bytes and the point are no paths; the last one has no room.
+        String paths = Docs.mostElements().replace("'':null,", "").replace("'.':null,", "").replace(",'vk':null", "");
+        Desk.isChange("{$set:" + paths + "}", 527);
+        Desk.done("{}", "{$set:" + paths + "}", 527, paths);
+    }
+
+    private static void justSoManyBytes() {
+        Check.sentence(PLACE, "-1 when they are no document of just n bytes");
+        byte[] bytes = Docs.of("{$set:{a:1}}");
+        for (int n = 0; n <= 40; n++) {
+            Desk desk = new Desk();
+            desk.feed(Arrays.copyOf(bytes, 40));
+            Check.due("n " + n, desk.change(n), n == bytes.length ? 1 : -1);
+            Check.due("n " + n, desk.apply(0), n == bytes.length ? 1 : -2);
+            desk.tells("it is no fault", -1, -1);
         }
-        Check.due(change + ": the tape is empty", desk.x.feed(0, 0, 0, 0, 0), 20);
-    }
-
-    private static void right(String change, int paths) {
-        due(change, paths, -1, -1);
-    }
-
-    private static void counts() {
-        right("{}", 0);
-        right("{$set:{}}", 0);
-        right("{$set:{},$unset:{},$inc:{},$push:{},$pull:{},$addToSet:{}}", 0);
-        right("{$set:{a:1}}", 1);
-        right("{$set:{a:1,b:{x:1}},$unset:{c:null},$inc:{d:1,e:1L},$push:{f:[]},$pull:{g:'x'},$addToSet:{h:true}}", 8);
-    }
-
-    private static void wrongCalls() {
         Desk desk = new Desk();
-        desk.change("{$set:{a:1}}");
-        byte[] bytes = Docs.of("{$set:{b:1}}");
-        desk.feed(bytes);
-        Check.due("n -1", desk.x.change(-1), -2);
-        Check.due("n lowest", desk.x.change(Integer.MIN_VALUE), -2);
-        Check.due("n highest", desk.x.change(Integer.MAX_VALUE), -2);
-        Check.due("n 41", desk.x.change(41), -2);
-        Check.due("the change stays", desk.x.apply(0), 1);
-        Check.due("the tape stayed", desk.x.change(bytes.length), 1);
-        Check.due("apply", desk.x.apply(0), 1);
-        desk.holds("both", 0, "{a:1,b:1}");
+        desk.feed(Docs.join(bytes, Docs.times("x", 100).getBytes()));
+        Check.due("what is behind them is no part of it", desk.change(bytes.length), 1);
+        Desk.isChange("{$set:" + Docs.large("t", 2000 - 11) + "}", 1);
+    }
+
+    private static void tapeIsEmptyThen() {
+        Check.sentence(PLACE, "The first n bytes of the tape (which is empty then)");
+        for (String text : new String[] {"{}", "{$set:{a:1}}", "{$set:1}", "{x:1}", "{$inc:{a:'x'}}", "{$set:{a:1,a:1}}"}) {
+            byte[] bytes = Docs.of(text);
+            for (int n : new int[] {0, 1, bytes.length - 1, bytes.length, bytes.length + 1, 60}) {
+                Desk desk = new Desk();
+                desk.feed(Arrays.copyOf(bytes, 60));
+                desk.change(n);
+                Check.due(text + ", n " + n + ": nothing is left", desk.change(1), -2);
+                Check.due(text + ", n " + n + ": nothing is left", desk.read(0, 1), -2);
+                Check.due(text + ", n " + n + ": the next ones", desk.feed(0x05000000, 0, 0, 0, 0), 20);
+                Check.due(text + ", n " + n + ": the next ones", desk.change(5), 0);
+            }
+        }
+    }
+
+    private static void fromNowOn() {
+        Check.sentence(PLACE, "are the change from now on");
+        Desk desk = new Desk();
+        desk.change("{$set:{a:1,b:1,c:1}}");
+        desk.change("{$set:{d:1}}");
+        Check.due("the second one alone", desk.apply(0), 1);
+        desk.holds("the second one alone", 0, "{d:1}");
+        desk.change("{}");
+        Check.due("a change of nothing", desk.apply(0), 0);
+        desk.holds("a change of nothing", 0, "{d:1}");
     }
 
     private static void noDocument() {
+        Check.sentence(PLACE, "-1 when they are no document of just n bytes");
+        Desk desk = new Desk();
+        Check.due("names that are not different", desk.change("{$set:{a:1},$set:{b:1}}"), -1);
+        Check.due("a path twice in one operator", desk.change("{$set:{a:1,a:1}}"), -1);
+        Check.due("no document, and an operator that is none", desk.change("{x:{a:1,a:1}}"), -1);
+        Check.due("17 deep", desk.change("{$set:{a:" + Docs.deep(15) + "}}"), -1);
+        Check.due("16 deep", desk.change("{$set:{a:" + Docs.deep(14) + "}}"), 1);
+        Check.due("four bytes", desk.change(Docs.raw(4, 0, 0, 0)), -1);
+        Check.due("zeros", desk.change(new byte[20]), -1);
+        desk.tells("none is a fault", -1, -1);
+    }
+
+    private static void faults() {
+        Check.sentence(PLACE, "its fault 1 to 5, less 10 (-9 to -5)");
+        Desk desk = new Desk();
+        Check.due("fault 1", desk.change("{x:{}}"), -9);
+        Check.due("fault 2", desk.change("{$set:1}"), -8);
+        Check.due("fault 3", desk.change("{$set:{'':1}}"), -7);
+        Check.due("fault 4", desk.change("{$inc:{a:null}}"), -6);
+        Check.due("fault 5", desk.change("{$set:{a:1},$inc:{a:1}}"), -5);
+    }
+
+    private static void noChangeThen() {
+        Check.sentence(PLACE, "there is no change then, either way.");
+        for (String wrong : new String[] {"{x:{}}", "{$set:1}", "{$set:{c:1,'':1}}", "{$set:{c:1},$inc:{a:null}}",
+            "{$set:{a:1},$inc:{a:1}}", "{$set:{a:1,a:1}}"}) {
+            Desk desk = new Desk();
+            desk.change("{$set:{a:1}}");
+            Check.due(wrong, desk.change(wrong) < 0, true);
+            Check.due(wrong + ": no change", desk.apply(0), -2);
+            desk.holds(wrong, 0, "{}");
+            Check.due("the next one", desk.change("{$set:{b:1}}"), 1);
+            Check.due("the next one", desk.apply(0), 1);
+            desk.holds("the next one", 0, "{b:1}");
+        }
         Desk desk = new Desk();
         desk.change("{$set:{a:1}}");
-        Check.due("no bytes", desk.x.change(0), -1);
-        Check.due("no change then", desk.x.apply(0), -2);
+        Check.due("no bytes", desk.change(0), -1);
+        Check.due("no bytes: no change", desk.apply(0), -2);
+    }
+
+    private static void noSuchCount() {
+        Check.sentence(PLACE, "-2, doing nothing, when n is below 0 or more than there are.");
+        Desk desk = new Desk();
+        desk.change("{$set:{b:1},$inc:{b:1}}");
         desk.change("{$set:{a:1}}");
-        Check.due("names that are not different", desk.change("{$set:{a:1},$set:{b:1}}"), -1);
-        Check.due("no change then", desk.x.apply(0), -2);
-        Check.due("the same path twice in one operator", desk.change("{$set:{a:1,a:1}}"), -1);
-        Check.due("it is no fault", desk.x.place(0), -1);
-        byte[] bytes = Docs.of("{$set:{a:1}}");
-        Check.due("a byte more", desk.change(java.util.Arrays.copyOf(bytes, bytes.length + 1)), -1);
-        Check.due("a byte less", desk.change(java.util.Arrays.copyOf(bytes, bytes.length - 1)), -1);
-        Check.due("the tape is empty", desk.x.feed(0, 0, 0, 0, 0), 20);
-        Desk deep = new Desk();
-        Check.due("16 deep", deep.change("{$set:{a:" + Docs.deep(14) + "}}"), 1);
-        Check.due("17 deep", deep.change("{$set:{a:" + Docs.deep(15) + "}}"), -1);
+        for (int n : new int[] {1, 5, 20, -1, Integer.MIN_VALUE, Integer.MAX_VALUE}) {
+            Check.due("nothing on the tape, n " + n, desk.change(n), -2);
+        }
+        byte[] bytes = Docs.of("{$set:{b:1}}");
+        desk.feed(bytes);
+        for (int n : new int[] {-1, -23, Integer.MIN_VALUE, Integer.MIN_VALUE + 23, 41, 42, 60, 2000, 2001, 65559,
+            Integer.MAX_VALUE}) {
+            Check.due("n " + n, desk.change(n), -2);
+        }
+        desk.tells("the latest fault stays", 1, 0);
+        Check.due("the change stays", desk.apply(0), 1);
+        desk.holds("the change stays", 0, "{a:1}");
+        Check.due("the tape stays", desk.feed(0, 0, 0, 0, 0), 60);
+        Check.due("the tape stays", desk.change(bytes.length), 1);
+        Check.due("apply", desk.apply(0), 1);
+        desk.holds("both", 0, "{a:1,b:1}");
+        byte[] forty = Docs.of("{$set:" + Docs.large("t", 29) + "}");
+        Check.due("as many as there are", desk.feed(forty).change(40), 1);
     }
 
-    private static void operators() {
-        due("{a:{}}", -9, 0, -1);
-        due("{'':{}}", -9, 0, -1);
-        due("{set:{}}", -9, 0, -1);
-        due("{$se:{}}", -9, 0, -1);
-        due("{$sett:{}}", -9, 0, -1);
-        due("{$Set:{}}", -9, 0, -1);
-        due("{$addtoset:{}}", -9, 0, -1);
-        due("{$addToSe:{}}", -9, 0, -1);
-        due("{$set:{},$unset:{},$rename:{}}", -9, 2, -1);
-        due("{a:1}", -9, 0, -1);
-        due("{$set:1}", -8, 0, -1);
-        due("{$set:[]}", -8, 0, -1);
-        due("{$inc:[1]}", -8, 0, -1);
-        due("{$push:null}", -8, 0, -1);
-        due("{$set:{a:1},$pull:'x'}", -8, 1, -1);
-    }
-
-    private static void paths() {
-        right("{$set:{a:1,'a b':1,'$x':1,'0':1,'00':1,'-1':1,'\u00e9.\u20ac':1}}", 7);
-        right("{$set:{'a.b.c.d.e.f.g.h':1}}", 1);
-        due("{$set:{'a.b.c.d.e.f.g.h.i':1}}", -7, 0, 0);
-        due("{$set:{'':1}}", -7, 0, 0);
-        due("{$set:{'.':1}}", -7, 0, 0);
-        due("{$set:{'a.':1}}", -7, 0, 0);
-        due("{$set:{'.a':1}}", -7, 0, 0);
-        due("{$set:{'a..b':1}}", -7, 0, 0);
-        due("{$set:{a:1,'b.c':1,'a.b.':1}}", -7, 0, 2);
-        due("{$set:{a:1},$unset:{b:1,'..':1}}", -7, 1, 1);
-    }
-
-    private static void arguments() {
-        right("{$inc:{a:1,b:1L,c:-1,d:0}}", 4);
-        due("{$inc:{a:'1'}}", -6, 0, 0);
-        due("{$inc:{a:null}}", -6, 0, 0);
-        due("{$inc:{a:true}}", -6, 0, 0);
-        due("{$inc:{a:{}}}", -6, 0, 0);
-        due("{$inc:{a:1,b:[]}}", -6, 0, 1);
-        right("{$set:{a:'1'},$push:{b:null},$pull:{c:true},$unset:{d:[]},$addToSet:{e:{}}}", 5);
-    }
-
-    private static void clashes() {
-        due("{$set:{a:1},$unset:{a:1}}", -5, 1, 0);
-        due("{$set:{a:1,'a.b':1}}", -5, 0, 1);
-        due("{$set:{'a.b':1,a:1}}", -5, 0, 1);
-        due("{$set:{'a.b.c':1},$push:{x:1,'a.b':1}}", -5, 1, 1);
-        due("{$set:{'a.b':1},$push:{x:1},$pull:{y:1,'a.b.c.d':1}}", -5, 2, 1);
-        right("{$set:{a:1,ab:1,'abc.c':1}}", 3);
-        right("{$set:{ab:1,a:1,b:1}}", 3);
-        right("{$set:{'a.b':1,'a.bc':1,'a.c':1}}", 3);
-        right("{$set:{'a.0':1,'a.00':1}}", 2);
-        right("{$set:{'a.b':1,'b.a':1}}", 2);
-        due("{$set:{'a.0':1},$push:{'a.0':1}}", -5, 1, 0);
-    }
-
-    private static void order() {
-        due("{x:1,$set:1}", -9, 0, -1);
-        due("{$set:1,x:{}}", -8, 0, -1);
-        due("{$set:{'':1},x:{}}", -7, 0, 0);
-        due("{$inc:{'':'x'}}", -7, 0, 0);
-        due("{$set:{a:1},$inc:{a:'x'}}", -6, 1, 0);
-        due("{$set:{a:1},$inc:{a:1,b:'x'}}", -5, 1, 0);
-        due("{$set:{a:1},$inc:{b:'x',a:1}}", -6, 1, 0);
+    private static void documentsStay() {
+        Check.sentence(PLACE, "The first n bytes of the tape (which is empty then) are the change from now on");
+        Desk desk = new Desk();
+        desk.read(0, "{a:1}");
+        desk.change("{$set:{a:2}}");
+        desk.change("{$set:1}");
+        for (int slot = 0; slot < 4; slot++) {
+            desk.holds("slot " + slot, slot, slot == 0 ? "{a:1}" : "{}");
+        }
     }
 }

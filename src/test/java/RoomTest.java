@@ -1,43 +1,53 @@
 import java.lang.management.ManagementFactory;
 
-/** All that an object needs is made with it: its calls make nothing, and what it holds is small. */
+/** What an object and its 512 calls make has room where all calls of a run live. */
 public final class RoomTest {
-    private static final int ROOM = 60_000;
+    /** 600,000 objects, and 7.3 million fields and elements of at most eight bytes. */
+    private static final long ROOM = 600_000L * 16 + 7_300_000L * 8;
+
+    private static final String DOCUMENT = Docs.mostElements();
+    private static final String CHANGE = "{$set:{'a.b.c.d.e.f.g.h':1},$addToSet:{r:{x:[1,2]}},$pull:{s:1},$inc:{'d.e':1}}";
 
     public static void main(String[] args) {
+        room();
+        lastCalls();
+        Check.end();
+    }
+
+    private static void room() {
         dearestRun();
         long before = allocated();
         dearestRun();
         long made = allocated() - before;
-        Check.due("a run makes at most " + ROOM + " bytes beside the test's own: " + made, made <= ROOM, true);
-        Check.end();
-    }
-
-    private static final byte[] DOCUMENT = Docs.of(wide());
-    private static final byte[] CHANGE = Docs.of("{$set:{'a.b.c.d.e.f.g.h':1},$addToSet:{r:{x:[1,2]}},$pull:{s:1}}");
-
-    private static String wide() {
-        StringBuilder out = new StringBuilder("{r:[{x:[1]},{x:[2]}],s:[1,2,3]");
-        for (int i = 0; i < 200; i++) {
-            out.append(",n").append(i).append(":null");
-        }
-        return out.append("}").toString();
+        Check.due("a run makes at most " + ROOM + " bytes: " + made, made <= ROOM, true);
     }
 
     private static void dearestRun() {
         Desk desk = new Desk();
         desk.read(0, DOCUMENT);
+        desk.read(1, "{r:[{x:[1]},{x:[2]}],s:[1,2,3]}");
         desk.change(CHANGE);
-        for (int i = 0; i < 300; i++) {
-            desk.x.copy(1, 0);
-            desk.x.apply(1);
-            desk.x.many(1, 1);
-            desk.x.many(1, 2);
+        while (desk.callsLeft() >= 5) {
+            desk.copy(2, 1);
+            desk.apply(2);
+            desk.apply(0);
+            desk.many(0, 1);
+            desk.many(0, 2);
         }
     }
 
     private static long allocated() {
         var bean = (com.sun.management.ThreadMXBean) ManagementFactory.getThreadMXBean();
         return bean.getThreadAllocatedBytes(Thread.currentThread().getId());
+    }
+
+    private static void lastCalls() {
+        Check.sentence("What it is", "An object is used for at most 512 calls after it has been made");
+        Desk desk = new Desk();
+        desk.change("{$inc:{n:1}}");
+        for (int n = 1; desk.callsLeft() > 2; n++) {
+            Check.due("apply " + n, desk.apply(1), 1);
+        }
+        Check.due("call 511", desk.byteAt(1, 7) + 256 * desk.byteAt(1, 8), 512 - 5);
     }
 }
