@@ -140,7 +140,7 @@ public final class TermsBytesTest {
         Desk.done("{a:0L}", "{$inc:{a:-2147483648}}", 1, "{a:-2147483648L}");
         Check.sentence(PLACE, "(numbers with their lowest byte first)");
         Desk.done("{a:255,b:16777215,c:4294967295L}", "{$inc:{a:1,b:1,c:1}}", 3, "{a:256,b:16777216,c:4294967296L}");
-        Desk.isDocument("a size above 255", Docs.join(Docs.raw(44, 1, 0, 0, 10), new byte[0],
+        Desk.isDocument("a size above 255", Docs.join(Docs.raw(44, 1, 0, 0, 10),
             Docs.times("n", 293).getBytes(), Docs.raw(0, 0)), 1);
     }
 
@@ -187,6 +187,8 @@ public final class TermsBytesTest {
         for (int n = 0; n < 4; n++) {
             Desk.isNone(n + " bytes of n", Docs.around(Docs.join(Docs.raw(2, 'a', 0), Arrays.copyOf(Docs.four(1), n))));
         }
+        Desk.isNone("n 0 and no byte", Docs.around(Docs.raw(2, 'a', 0, 0, 0, 0, 0)));
+        Desk.isNone("n 0 and no byte", Docs.around(Docs.raw(2, 'a', 0, 0, 0, 0, 0, 10, 'b', 0)));
         Desk.isNone("the document's 0 ends no text", Docs.around(Docs.raw(2, 'a', 0, 1, 0, 0, 0)));
         Desk.isNone("the document's 0 ends no text", Docs.around(Docs.raw(2, 'a', 0, 2, 0, 0, 0, 'x')));
     }
@@ -298,14 +300,14 @@ public final class TermsBytesTest {
     private static void depth() {
         Check.sentence(PLACE, "documents and rows lie at most 16 deep, the outermost one being 1 deep.");
         for (int depth = 1; depth <= 20; depth++) {
-            deep(depth, Docs.deep(depth));
+            deep(depth, Docs.deep(depth), depth == 1 ? 0 : 1);
             if (depth > 1) {
-                deep(depth, "{a:" + Docs.deepRow(depth - 1) + "}");
-                deep(depth, "{b:{},a:" + Docs.deepRow(depth - 1) + ",c:[]}");
+                deep(depth, "{a:" + Docs.deepRow(depth - 1) + "}", 1);
+                deep(depth, "{b:{},a:" + Docs.deepRow(depth - 1) + ",c:[]}", 3);
             }
             if (depth > 2) {
-                deep(depth, "{a:[1," + Docs.deep(depth - 2) + ",2]}");
-                deep(depth, "{a:{z:1,a:" + Docs.deepRow(depth - 2) + "}}");
+                deep(depth, "{a:[1," + Docs.deep(depth - 2) + ",2]}", 1);
+                deep(depth, "{a:{z:1,a:" + Docs.deepRow(depth - 2) + "}}", 1);
             }
         }
         Desk.isDocument("{a:" + Docs.deep(15) + ",b:" + Docs.deep(15) + ",c:" + Docs.deepRow(15) + "}", 3);
@@ -317,9 +319,9 @@ public final class TermsBytesTest {
         Desk.isNone("{$pull:{a:" + Docs.deepRow(15) + "}}");
     }
 
-    private static void deep(int depth, String text) {
+    private static void deep(int depth, String text, int elements) {
         if (depth <= 16) {
-            Desk.isDocument(text, Docs.of(text).length == 5 ? 0 : text.startsWith("{b") ? 3 : 1);
+            Desk.isDocument(text, elements);
         } else {
             Desk.isNone(text);
         }

@@ -28,6 +28,11 @@ public final class TermsChangeTest {
                 Desk.hasFault("{'" + name + "':{}}", 1, 0, -1);
                 Desk.hasFault("{'" + name + "':1}", 1, 0, -1);
             }
+            for (int i = 0; i < operator.length(); i++) {
+                String name = operator.substring(0, i) + (char) (operator.charAt(i) + 1) + operator.substring(i + 1);
+                Desk.hasFault("{" + name + ":{a:1}}", 1, 0, -1);
+                Desk.hasFault("{" + operator.substring(0, i) + operator.substring(i + 1) + ":{a:1}}", 1, 0, -1);
+            }
         }
         for (String name : new String[] {"", "$", "a", "$rename", "$setOnInsert", "$addtoset", "$add", "$pushAll", "$unse",
             "0", "$uns", "$i"}) {
