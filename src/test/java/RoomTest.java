@@ -10,7 +10,6 @@ public final class RoomTest {
 
     public static void main(String[] args) {
         room();
-        lastCalls();
         Check.end();
     }
 
@@ -39,15 +38,5 @@ public final class RoomTest {
     private static long allocated() {
         var bean = (com.sun.management.ThreadMXBean) ManagementFactory.getThreadMXBean();
         return bean.getThreadAllocatedBytes(Thread.currentThread().getId());
-    }
-
-    private static void lastCalls() {
-        Check.sentence("What it is", "An object is used for at most 512 calls after it has been made");
-        Desk desk = new Desk();
-        desk.change("{$inc:{n:1}}");
-        for (int n = 1; desk.callsLeft() > 2; n++) {
-            Check.due("apply " + n, desk.apply(1), 1);
-        }
-        Check.due("call 511", desk.byteAt(1, 7) + 256 * desk.byteAt(1, 8), 512 - 5);
     }
 }
